@@ -582,7 +582,7 @@ public final class PedlarPack {
     /** How many FARMS a ROW's code (see Rounds) has. */
     private static int farmsOf(int code) {
         int farms = 0;
-        for (int rest = code; rest > 0; rest >>= 3) {
+        while (farms < MOST_OPEN && code >> 3 * farms > 0) {
             farms++;
         }
         return farms;
@@ -706,7 +706,8 @@ public final class PedlarPack {
         final int[] shops = new int[THINGS];
 
         int chanceOf(int farm, int thing, int level) {
-            return Math.max(0, chances[farm * THINGS + thing][level] - shops[thing]);
+            int chance = chances[farm * THINGS + thing][level];
+            return chance > shops[thing] ? chance - shops[thing] : 0;
         }
 
         /** Takes three CHANCES that stand from a place on; false, and nothing taken, where they may not be. */
@@ -1206,7 +1207,8 @@ public final class PedlarPack {
             start = HOME;
             hoursLeft = day;
             limit = packLimit;
-            findAll();
+            clear();
+            lengthen(0, 0, HOME, 0, 0);
             roundsKnown = true;
         }
 
@@ -1217,16 +1219,16 @@ public final class PedlarPack {
             allowed = place == HOME ? open : open & ~bitOf(place);
             start = place;
             hoursLeft = day - gone;
-            findAll();
+            clear();
+            lengthen(0, 0, HOME, 0, 0);
         }
 
-        private void findAll() {
+        private void clear() {
             for (int set = 0; set < SETS; set++) {
                 most[set] = NO_SUCH_ROW;
                 codes[set] = 0;
             }
             doors.comeHome();
-            lengthen(0, 0, HOME, 0, 0);
         }
 
         /** Judges a ROW, then all that have it as their end: those share what is to come behind it. */
