@@ -161,6 +161,8 @@ public final class AskedWellTest {
         CHECKS.due("its weight", x.best(-1), 1);
         x.thing(2, 1, 2);
         CHECKS.due("of like weight the least row", x.best(0) * 100 + x.best(1) * 10 + x.best(2), 1);
+        x.thing(0, 1, 1);
+        CHECKS.due("the least in weight, though not the least row", x.best(0) * 100 + x.best(1) * 10 + x.best(2), 100);
         x.thing(0, 0, 6);
         CHECKS.due("what brings nothing isn't loaded", x.loaded(0), 0);
         x.set(1, 100);
@@ -175,6 +177,8 @@ public final class AskedWellTest {
         Checks.row(x, 1, 2);
         x.set(1, 9);
         CHECKS.fraction("10, and 2/3 of 15/4", x.load(2, 0), x.load(2, 1), 25, 2);
+        x.set(1, 8);
+        CHECKS.fraction("10, and 1/3 of 15/4", x.load(2, 0), x.load(2, 1), 45, 4);
         x.set(1, 12);
         CHECKS.fraction("and 2/3 of the second, 5/4", x.load(2, 0), x.load(2, 1), 10 * 12 + 45 + 10, 12);
         x.set(1, 13);

@@ -95,8 +95,11 @@ public final class RoundsTest {
         x.shop(1, 8);
         CHECKS.due("by shop()", x.rounds(0), 19);
         CHECKS.due("now with two farms", x.round(-1), 2);
+        x.road(1, 2, 60);
+        CHECKS.due("by road()", x.round(-1), 1);
+        x.road(1, 2, 10);
         x.road(0, 2, 1);
-        CHECKS.due("by road()", x.round(-1), 2);
+        CHECKS.due("by road() again", x.round(-1), 2);
         x.set(0, 21);
         CHECKS.due("by set(0)", x.round(0), 1);
         CHECKS.due("its gain", x.rounds(0), 19);
@@ -162,6 +165,13 @@ public final class RoundsTest {
         CHECKS.due("two at the first, 19/2 and 9 against 19", x.trust(4, 0, 2, 2, 9), 0);
         CHECKS.due("two at the first, 19/2 and 10 against 19", x.trust(4, 0, 2, 2, 10), 1);
         CHECKS.due("no chance", x.trust(4, 0, 4, 2, 0), 0);
+        CHECKS.due("four at the first, 8 and 31/2 against 25", x.trust(4, 0, 4, 0, 16), 0);
+        Checks.thing(x, 0, 1, 1, 0, 8, 8, 8);
+        Checks.wants(x, "1:0=16,16,16");
+        CHECKS.due("both are alike", x.trust(0, 0, 1, 0, 16), 0);
+        CHECKS.due("a little less", x.trust(0, 0, 1, 0, 15), 0);
+        x.thing(0, 5, 9);
+        CHECKS.due("at a higher price, alike again", x.trust(0, 0, 2, 2, 16), 0);
         x.thing(4, 2, 99);
         CHECKS.due("better sold for sure than lost", x.trust(4, 0, 4, 0, 0), 0);
         CHECKS.due("better lost than perhaps brought home", x.trust(4, 1, 4, 0, 0), 1);
@@ -230,6 +240,8 @@ public final class RoundsTest {
         Checks.wants(y, "1:3=8,8,8;2:3=8,8,8");
         CHECKS.due("all of it: 4 by 2, 9 by 3", y.straps(), 3);
         CHECKS.fraction("brings() of two", y.brings(3, 0), y.brings(3, 1), 4, 1);
+        Checks.wants(y, "1:4=0,0,0;1:3=16,16,16;2:3=0,0,0");
+        CHECKS.due("one of weight 1", y.straps(), 3);
     }
 
     private static void tooMany() {

@@ -59,7 +59,7 @@ public final class ThingsPlacesTest {
         x.thing(2, 4, 6);
         x.thing(2, 3, 5);
         int[][] bad = {{2, 3, 7}, {2, 4, 4}, {2, 4, 10}, {2, 5, 5}, {2, 3, -1}, {2, 5, 100}, {2, 0, -1}, {2, 0, 100},
-            {2, 1, 0}, {2, 1, 21}, {2, 2, -1}, {2, 2, 100}, {-1, 0, 1}, {6, 0, 1}, {2, -1, 1}, {2, 6, 1}};
+            {2, 1, 0}, {2, 1, 21}, {2, 2, -1}, {2, 2, 100}, {-1, 0, 1}, {6, 0, 1}, {2, -1, 1}, {2, 6, 1}, {2, 6, 99}, {2, 7, 99}};
         for (int[] a : bad) {
             CHECKS.due("thing(" + a[0] + ", " + a[1] + ", " + a[2] + ")", x.thing(a[0], a[1], a[2]), -2);
         }
@@ -114,6 +114,8 @@ public final class ThingsPlacesTest {
         x.road(7, 3, 0);
         CHECKS.due("that road gone", x.way(0, 7), 420);
         CHECKS.due("at one place", x.way(4, 4), 0);
+        x.road(0, 5, 3);
+        CHECKS.due("over home", x.way(1, 5), 63);
         int[][] bad = {{-1, 0}, {8, 0}, {0, -1}, {0, 8}};
         for (int[] a : bad) {
             CHECKS.due("way(" + a[0] + ", " + a[1] + ")", x.way(a[0], a[1]), -2);
