@@ -38,9 +38,14 @@ final class Checks {
         return x.fault();
     }
 
+    /** Part by part, so that a text may be longer than a LINE. */
     static void wants(PedlarPack x, String text) {
-        type(x, text);
-        x.wants();
+        for (String part : text.split(";")) {
+            type(x, part);
+            if (x.wants() != 1) {
+                throw new IllegalStateException("the test itself tells WANTS with a FAULT: " + part);
+            }
+        }
     }
 
     /** SHEET s becomes ints with these items. */

@@ -53,7 +53,8 @@ public final class OracleTest {
                 open.add(method);
             }
         }
-        while (wrong == 0 && told.size() < 500) {
+        // No more calls than the document allows, and one turn may take some forty.
+        while (wrong == 0 && told.size() < 460) {
             int turn = random.nextInt(100);
             if (turn < 4) {
                 line(random.nextInt(3) == 0);

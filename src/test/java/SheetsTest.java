@@ -191,17 +191,21 @@ public final class SheetsTest {
 
     private static void digest() {
         PedlarPack x = new PedlarPack();
-        CHECKS.due("digest() of a new one", x.digest(), digestOf(x));
+        int[][] figures = new int[6][];
+        java.util.Arrays.fill(figures, new int[] {1, 1, 0, 2, 3, 4});
+        CHECKS.due("digest() of a new one", x.digest(), digestOf(x, figures));
         x.road(0, 1, 3);
-        Checks.thing(x, 0, 2, 3, 4, 5, 6, 7);
-        Checks.thing(x, 3, 3, 5, 0, 7, 9, 30);
-        CHECKS.due("digest() of things", x.digest(), digestOf(x));
+        figures[0] = new int[] {2, 3, 4, 5, 6, 7};
+        figures[3] = new int[] {3, 5, 0, 7, 9, 30};
+        Checks.thing(x, 0, figures[0]);
+        Checks.thing(x, 3, figures[3]);
+        CHECKS.due("digest() of things", x.digest(), digestOf(x, figures));
         Checks.wants(x, "1:0=11,9,7;2:0=3,2,1;1:3=10,8,5");
         Checks.row(x, 1, 2);
         Checks.pack(x, 1, 0, 0, 2, 0, 1);
         Checks.type(x, "1:0=3,2,1;x");
         x.set(1, 9);
-        CHECKS.due("digest() of all", x.digest(), digestOf(x));
+        CHECKS.due("digest() of all", x.digest(), digestOf(x, figures));
         long ahead = x.digest();
         x.put(0, 9, 9, 9);
         x.get(2, 0, 0);
@@ -209,7 +213,7 @@ public final class SheetsTest {
         CHECKS.due("it leaves the finding", x.count(8), 1);
     }
 
-    private static long digestOf(PedlarPack x) {
+    private static long digestOf(PedlarPack x, int[][] figures) {
         java.util.List<Long> told = new java.util.ArrayList<>();
         for (int what = 0; what < 8; what++) {
             told.add((long) x.count(what));
@@ -217,7 +221,7 @@ public final class SheetsTest {
         told.add((long) x.fault());
         for (int thing = 0; thing < 6; thing++) {
             for (int what = 0; what < 6; what++) {
-                told.add((long) figure(x, thing, what));
+                told.add((long) figures[thing][what]);
             }
             told.add((long) x.best(thing));
             told.add((long) x.loaded(thing));
@@ -236,17 +240,5 @@ public final class SheetsTest {
             h = 31 * h + one;
         }
         return h;
-    }
-
-    /** thing() answers what was there only when it sets another: so it is set, and set back. */
-    private static int figure(PedlarPack x, int thing, int what) {
-        for (int v = 0; v < 100; v++) {
-            int was = x.thing(thing, what, v);
-            if (was != -2) {
-                x.thing(thing, what, was);
-                return was;
-            }
-        }
-        return -1;
     }
 }
