@@ -14,6 +14,7 @@ public final class EdgesAskedWellTest {
         bestLeastRow();
         loadedFromNothing();
         loadedFewerThanFour();
+        loadedAgainAndAgain();
         loadedMostByWeight();
         loadedAboveNothing();
         loadedNotTooHeavy();
@@ -182,6 +183,8 @@ public final class EdgesAskedWellTest {
         EDGES.due("80 of 79", x.best(0), 3);
         x.set(1, 1);
         EDGES.due("none fits", x.best(-1), 0);
+        EDGES.due("2 by 16 to the seventh is more than nothing", justAbove().best(0), 1);
+        EDGES.due("-2 by 16 to the seventh is less", justBelow().best(0), 0);
     }
 
     private static void bestLeastInWeight() {
@@ -239,6 +242,22 @@ public final class EdgesAskedWellTest {
         due("room for three", x, new int[] {3, 0, 0, 0, 0, 0}, new int[] {3, 0, 0, 0, 0, 0});
     }
 
+    private static void loadedAgainAndAgain() {
+        EDGES.sentence(0, "from nothing on, again and again that THING");
+        PedlarPack x = new PedlarPack();
+        for (int thing = 0; thing < 6; thing++) {
+            Checks.wants(x, "1:" + thing + "=16,16,16;2:" + thing + "=16,16,16;3:" + thing + "=16,16,16;4:" + thing + "=16,16,16");
+        }
+        Checks.row(x, 1, 2, 3, 4);
+        x.set(1, 100);
+        due("till there are four of each", x, new int[] {4, 4, 4, 4, 4, 4}, new int[] {4, 4, 4, 4, 4, 4});
+        EDGES.due("their weight", x.loaded(-1), 24);
+        x.set(1, 23);
+        due("till there is no room", x, new int[] {3, 4, 4, 4, 4, 4}, new int[] {4, 4, 4, 4, 4, 3});
+        Checks.row(x, 1);
+        due("till none brings more", x, new int[] {1, 1, 1, 1, 1, 1}, new int[] {1, 1, 1, 1, 1, 1});
+    }
+
     private static void loadedMostByWeight() {
         EDGES.sentence(0, "of which one more brings most by its WEIGHT");
         PedlarPack x = with("1:5=0,0,0", 1);
@@ -265,6 +284,22 @@ public final class EdgesAskedWellTest {
         EDGES.due("1 above 0, the second below it", x.loaded(0), 1);
         x.thing(0, 1, 20);
         EDGES.due("1 by 20", x.loaded(0), 1);
+        EDGES.due("2 by 16 to the seventh, by 20", justAbove().loaded(0), 1);
+        EDGES.due("-2 by 16 to the seventh, by 20", justBelow().loaded(0), 0);
+    }
+
+    /** One of THING 0, which WEIGHS 20, brings 2 by 16 to the seventh. */
+    private static PedlarPack justAbove() {
+        PedlarPack x = with("1:0=10,0,0;2:0=1,1,1;3:0=5,0,0;4:0=3,3,0;5:0=3,0,0;6:0=3,3,0;7:0=7,0,0", 1, 2, 3, 4, 5, 6, 7);
+        Checks.thing(x, 0, 12, 20, 51, 14, 31, 39);
+        return x;
+    }
+
+    /** One of THING 0, which WEIGHS 20, brings 2 by 16 to the seventh less than nothing. */
+    private static PedlarPack justBelow() {
+        PedlarPack x = with("1:0=7,0,0;2:0=7,0,0;3:0=13,13,0;4:0=2,0,0;5:0=5,5,0;6:0=1,0,0;7:0=3,0,0", 1, 2, 3, 4, 5, 6, 7);
+        Checks.thing(x, 0, 5, 20, 76, 6, 10, 52);
+        return x;
     }
 
     private static void loadedNotTooHeavy() {
@@ -325,6 +360,8 @@ public final class EdgesAskedWellTest {
         bound("4, then -2", x, 100, 4, 1);
         x.thing(0, 0, 9);
         bound("just 0", x, 100, 0, 1);
+        bound("2 by 16 to the seventh", justAbove(), 100, 1, 134217728);
+        bound("-2 by 16 to the seventh", justBelow(), 100, 0, 1);
     }
 
     private static void boundMostFirst() {

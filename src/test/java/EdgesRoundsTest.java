@@ -13,9 +13,11 @@ public final class EdgesRoundsTest {
         onwardOtherThanThePlace();
         onwardHomeInTime();
         onwardLikewise();
+        onwardWhichIsFirst();
         onwardHomeAtOnce();
         trustWithKLeft();
         trustShowsNoOther();
+        trustPaidAtALevel();
         trustElseItIsLost();
         trustWhereBothAreAlike();
         twoFiveAtMost();
@@ -246,6 +248,20 @@ public final class EdgesRoundsTest {
         EDGES.due("the most VALUE", x.onward(0, 0), 1);
     }
 
+    private static void onwardWhichIsFirst() {
+        EDGES.sentence(0, "which FARM is first;");
+        PedlarPack x = ring();
+        Checks.pack(x, 0, 0, 1, 1, 0, 0);
+        EDGES.due("2, 3 ahead of 3, 2", x.onward(0, 0), 2);
+        x.set(0, 15);
+        EDGES.due("from 1 by 3 and 2, 15 of 15", x.onward(1, 0), 3);
+        EDGES.due("15 of 14, by either alone, too", x.onward(1, 1), -1);
+        x.set(2, 64);
+        x.road(2, 7, 1);
+        Checks.wants(x, "7:2=16,16,16");
+        EDGES.due("the last FARM", x.onward(2, 0), 7);
+    }
+
     private static void onwardHomeAtOnce() {
         EDGES.sentence(0, "NONE: HOME at once (also where that is too late)");
         PedlarPack x = along();
@@ -283,6 +299,17 @@ public final class EdgesRoundsTest {
         EDGES.due("the higher PRICE, but asked too", x.trust(1, 0, 2, 2, 16), 0);
         Checks.wants(x, "2:1=16,16,0");
         EDGES.due("8 on trust and 4, against 7 and 4", x.trust(1, 0, 2, 2, 16), 1);
+    }
+
+    private static void trustPaidAtALevel() {
+        EDGES.sentence(0, "that is paid at a LEVEL's PRICE at the next ROUND");
+        PedlarPack x = new PedlarPack();
+        Checks.row(x, 1);
+        Checks.thing(x, 0, 16, 1, 0, 15, 16, 17);
+        EDGES.due("15 against 16", x.trust(0, 0, 1, 0, 16), 0);
+        EDGES.due("16 against 16", x.trust(0, 0, 1, 1, 16), 0);
+        EDGES.due("17 against 16", x.trust(0, 0, 1, 2, 16), 1);
+        EDGES.all("no such LEVEL", Edges.BAD, x.trust(0, 0, 1, -1, 16), x.trust(0, 0, 1, 3, 16));
     }
 
     private static void trustElseItIsLost() {

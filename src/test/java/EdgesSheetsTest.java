@@ -61,6 +61,7 @@ public final class EdgesSheetsTest {
         digestOfANewOne();
         digestTellsEach();
         digestLeavesOutFindings();
+        digestBelowNothing();
         digestWraps();
         EDGES.end(32, 39);
     }
@@ -766,6 +767,27 @@ public final class EdgesSheetsTest {
         EDGES.due("nor are SHEETS", x.digest(), first);
         EDGES.due("it changes nothing", x.digest(), first);
         EDGES.due("nor the FINDING", x.count(8), 1);
+    }
+
+    private static void digestBelowNothing() {
+        EDGES.sentence(39, "hours(); judged(); gain() 0, 1; load() 0 to 2, above and below each; straps();");
+        PedlarPack x = new PedlarPack();
+        Checks.thing(x, 0, 1, 20, 99, 0, 0, 0);
+        Checks.row(x, 1);
+        Checks.pack(x, 4, 0, 0, 0, 0, 0);
+        List<Long> told = new ArrayList<>();
+        for (long each : new long[] {1, 80, 0, 0, 0, 60, 20, 127, 0, 1, 20, 99, 0, 0, 0, 0, 0}) {
+            told.add(each);
+        }
+        for (int thing = 1; thing < 6; thing++) {
+            for (long each : new long[] {1, 1, 0, 2, 3, 4, 0, 0}) {
+                told.add(each);
+            }
+        }
+        for (long each : new long[] {2000, 1, -396, 1, 0, 1, 0, 1, 0, 1, -1}) {
+            told.add(each);
+        }
+        EDGES.due("too heavy, no WAY, a GAIN below 0", x.digest(), fold(told));
     }
 
     private static void digestWraps() {

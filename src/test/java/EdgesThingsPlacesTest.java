@@ -3,6 +3,7 @@ public final class EdgesThingsPlacesTest {
     private static final Edges EDGES = new Edges();
 
     public static void main(String[] args) {
+        constants();
         thingsAre0To5();
         cost();
         weight();
@@ -34,6 +35,14 @@ public final class EdgesThingsPlacesTest {
         setTellsWhatItWas();
         setBad();
         EDGES.end(1, 5);
+    }
+
+    private static void constants() {
+        EDGES.sentence(0, "public static final int NONE = -1, BAD = -2, NOT = -3, FULL = -4;");
+        EDGES.due("NONE", PedlarPack.NONE, -1);
+        EDGES.due("BAD", PedlarPack.BAD, -2);
+        EDGES.due("NOT", PedlarPack.NOT, -3);
+        EDGES.due("FULL", PedlarPack.FULL, -4);
     }
 
     private static void thingsAre0To5() {

@@ -4,6 +4,7 @@ public final class EdgesWantsTest {
 
     public static void main(String[] args) {
         oneAtMostIsBought();
+        eachByItself();
         chancesAre0To16();
         chancesAtFirst();
         chancesNoneMoreThanTheOneAhead();
@@ -59,6 +60,18 @@ public final class EdgesWantsTest {
         EDGES.due("4, and three that come home", x.value(0, 0, 4, 0), 7);
         Checks.row(x, 2, 1);
         EDGES.due("two at two FARMS", x.sold(0, 4, 0, 2, 0), 1);
+    }
+
+    private static void eachByItself() {
+        EDGES.sentence(0, "0 at first), each by itself.");
+        PedlarPack x = with("1:0=8,8,8;2:0=8,8,8;1:1=8,8,8");
+        Checks.row(x, 1, 2);
+        EDGES.fraction("at both FARMS", x.sold(0, 2, 0, 2, 0), x.sold(0, 2, 0, 2, 1), 1, 4);
+        EDGES.fraction("at one of them", x.sold(0, 2, 0, 1, 0), x.sold(0, 2, 0, 1, 1), 1, 2);
+        EDGES.fraction("at none", x.sold(0, 2, 0, 0, 0), x.sold(0, 2, 0, 0, 1), 1, 4);
+        EDGES.fraction("another THING", x.sold(1, 2, 0, 1, 0), x.sold(1, 2, 0, 1, 1), 1, 2);
+        Checks.pack(x, 1, 1, 0, 0, 0, 0);
+        EDGES.fraction("3 by 3/4 and 3 by 1/2", x.gain(0), x.gain(1), 15, 4);
     }
 
     private static void chancesAre0To16() {
@@ -204,6 +217,17 @@ public final class EdgesWantsTest {
             fault(good.substring(0, length), ended ? -1 : length);
         }
         fault("1:0=0,0,0;2:0=0,0,0;3:0=0,0,0;4:0=0,0,0;", 40);
+        fault("1:0=16,16,16;2:0=16,16,16;3:0=16,16,16;4", 40);
+        fault("1:0=10,0,0;2:0=10,0,0;3:0=10,0,0;4:0=9,9", 40);
+        fault("1:0=10,0,0;2:0=10,0,0;3:0=10,0,0;4:0=10,", 40);
+        PedlarPack x = new PedlarPack();
+        for (int length = 0; length <= 10; length++) {
+            Checks.type(x, good);
+            x.wipe();
+            Checks.type(x, good.substring(0, length));
+            EDGES.due("what was wiped does not go on with the first " + length, x.fault(), length);
+            x.wipe();
+        }
     }
 
     private static void emptyLine() {
