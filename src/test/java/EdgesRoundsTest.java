@@ -160,6 +160,19 @@ public final class EdgesRoundsTest {
         dueRound("just for one", x, 2);
         Checks.pack(x, 4, 4, 4, 4, 4, 4);
         EDGES.due("whatever the PACK has", x.rounds(0), 7);
+        x = along();
+        for (int thing = 0; thing < 6; thing++) {
+            x.thing(thing, 2, 99);
+        }
+        EDGES.fraction("what would come home stays there", x.rounds(0), x.rounds(1), 12, 1);
+        dueRound("and so does what might", x, 1, 2);
+        Checks.row(x, 2, 1);
+        EDGES.due("a PACK for a longer ROW than the DAY lets be", x.best(1), 1);
+        x.set(0, 20);
+        EDGES.fraction("is not taken along", x.rounds(0), x.rounds(1), 5, 1);
+        EDGES.due("a PACK for that ROW", x.best(0), 1);
+        x.set(0, 19);
+        EDGES.fraction("nor HOME", x.rounds(0), x.rounds(1), 0, 1);
     }
 
     private static void fewestFarms() {

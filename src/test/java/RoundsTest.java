@@ -116,6 +116,11 @@ public final class RoundsTest {
         x.set(1, 20);
         x.onward(0, 0);
         CHECKS.due("not by onward()", x.rounds(0), 29);
+        x.onward(3, 10);
+        CHECKS.due("nor from a farm", x.rounds(0), 29);
+        Checks.pack(x, 4, 4, 4, 4, 4, 4);
+        x.onward(2, 0);
+        CHECKS.due("nor with a pack, both asked ahead", x.rounds(0), 29);
         CHECKS.due("two() is of the same rows", x.both(0), 29);
         x.thing(0, 0, 3);
         CHECKS.due("both() by thing()", x.both(0), 17);
