@@ -39,7 +39,9 @@ public final class PedlarPack {
     // 16 to the seventh: every mean along a ROW is a whole number of such parts,
     // so that means of ROWS of any length are compared and added as longs.
     private static final long UNIT = 268435456L;
-    private static final long NO_SUCH_ROW = Long.MIN_VALUE;
+    private static final int LEAST_INT = -2147483648;
+    private static final long LEAST_LONG = -9223372036854775808L;
+    private static final long NO_SUCH_ROW = LEAST_LONG;
 
     private final Goods goods = new Goods();
     private final Land land = new Land();
@@ -409,12 +411,12 @@ public final class PedlarPack {
 
     public int get(int s, int form, int i) {
         if (!isSheet(s) || !isForm(form)) {
-            return Integer.MIN_VALUE;
+            return LEAST_INT;
         }
         int finding = sheets.findingAt(s, form, i);
         if (finding != 0) {
             sheets.found(finding);
-            return Integer.MIN_VALUE;
+            return LEAST_INT;
         }
         return sheets.items[s][i];
     }
@@ -543,7 +545,7 @@ public final class PedlarPack {
     }
 
     private static long refusal(int answer) {
-        return Long.MIN_VALUE - answer;
+        return LEAST_LONG - answer;
     }
 
     /** The FRACTION's part above (what = 0) or below (1), in lowest terms; below is above 0. */

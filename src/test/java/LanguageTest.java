@@ -69,9 +69,10 @@ public final class LanguageTest {
         while (not.find()) {
             CHECKS.due("the word " + not.group(), 1, 0);
         }
+        // Rule 4 lists functions of these, no constants: MIN_VALUE is not among them.
         Matcher library = Pattern.compile("\\b(Math|Integer|Long)\\.(\\w+)").matcher(code);
         while (library.find()) {
-            boolean known = Set.of("min", "max", "abs", "bitCount", "MIN_VALUE", "MAX_VALUE").contains(library.group(2));
+            boolean known = Set.of("min", "max", "abs", "bitCount").contains(library.group(2));
             CHECKS.due("the library's " + library.group(), known ? 1 : 0, 1);
         }
         for (int i = 0; i < text.length(); i++) {
